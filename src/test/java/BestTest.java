@@ -7,6 +7,7 @@ public final class BestTest {
     swaps();
     loses();
     changesNothing();
+    asItIsNow();
     wrongInputs();
     Due.end();
   }
@@ -159,6 +160,21 @@ public final class BestTest {
     x.swap(9, 0);
     x.lose(9, 0);
     Due.isTrue(24, "nothing is changed", before.equals(Due.all(x)));
+  }
+
+  /** Each of them as the first call behind a change. */
+  private static void asItIsNow() {
+    ShelfWays x = Due.told("books 3;stay;want 0;");
+    x.set(0, 2);
+    Due.is(25, "kind(0, 1, 1)", x.kind(0, 1, 1), 3);
+    x.set(0, 1);
+    Due.is(26, "first(0, 1, 0)", x.first(0, 1, 0), 1);
+    x.set(0, 2);
+    Due.is(24, "order(0, 10)", x.order(0, 10), 2);
+    x.set(0, 1);
+    Due.is(28, "lose(1, 0)", x.lose(1, 0), 0);
+    x.add(0);
+    Due.is(27, "swap(1, 0)", x.swap(1, 0), 1);
   }
 
   private static void wrongInputs() {

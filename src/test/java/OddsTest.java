@@ -60,6 +60,10 @@ public final class OddsTest {
     mean(x, new int[] {5, 1}, 5, 2);
     x.steps(3);
     mean(x, new int[] {5, 1}, 3, 2);
+    x.set(0, 0);
+    mean(x, new int[] {0, 1}, 4, 1);
+    x.set(0, 1);
+    luck(x, new int[] {0, 0, 1, 1}, 1, 1);
     mean(Due.told("want 1;"), new int[] {5, 8}, 0, 1);
     mean(Due.told("front;"), new int[] {5, 8}, 0, 1);
     mean(Due.told("books 6;stay;stay;stay;stay;want 5;"), new int[] {0, 8}, 192, 1);

@@ -8,6 +8,7 @@ public final class SeenTest {
     books();
     asks();
     asksWithSeen();
+    asksAtTheEdge();
     wrongInputs();
     Due.end();
   }
@@ -143,6 +144,18 @@ public final class SeenTest {
     x.see(2, 0, 0);
     Due.is(35, "one is left", x.ask(0, 0), Due.NONE);
     Due.is(35, "one is left", x.ask(0, 1), Due.NONE);
+  }
+
+  /** A step SHELF and 16 WANTS: BOOK 3 stands first in the third round alone, if it is the WANT. */
+  private static void asksAtTheEdge() {
+    for (int i = 6; i <= 8; i++) {
+      ShelfWays x = Due.told("step;want 0 0 0 0 0 0 0 0 0 0 0 0 0 0 0 0;");
+      x.see(i + 1, 0, 0);
+      x.see(i + 17, 0, 0);
+      Due.is(34, "books(" + i + ")", x.books(i), 9);
+      Due.is(35, "ask(" + i + ", 0)", x.ask(i, 0), i < 8 ? 10 * (i + 33) : Due.NONE);
+      Due.is(35, "ask(" + i + ", 1)", x.ask(i, 1), i < 8 ? 1 : Due.NONE);
+    }
   }
 
   private static void wrongInputs() {

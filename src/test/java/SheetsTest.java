@@ -113,6 +113,11 @@ public final class SheetsTest {
     Due.is(41, "read(2, 2, 0, 0)", x.read(2, 2, 0, 0), 0);
     Due.is(41, "read(2, 2, -7, 0)", x.read(2, 2, -7, 0), 0);
     Due.is(42, "torn() of none", x.torn(), 0);
+    x.sheet(3, 1, 40);
+    x.lay(3, 39, 2);
+    x.drop(0);
+    Due.is(41, "read(3, 1, 39, 1)", x.read(3, 1, 39, 1), 1);
+    Due.is(41, "want(0)", x.want(0), 2);
   }
 
   private static void readFaults() {

@@ -8,6 +8,7 @@ public final class StepsTest {
     whenFirst();
     whenAtTheEdge();
     allAgain();
+    againAtTheEdge();
     wrongInputs();
     Due.end();
   }
@@ -62,6 +63,10 @@ public final class StepsTest {
       }
     }
     Due.isTrue(19, "nothing is changed", before.equals(Due.all(x)));
+    ShelfWays front = Due.told("front;stay;stay;want 3;");
+    Due.is(19, "the first SHELF PAYS most", front.runs(2, 2), 5);
+    Due.is(19, "the first SHELF moves", front.runs(2, 3), 1);
+    Due.is(19, "the first SHELF pays least", front.runs(2, 1), 0);
     ShelfWays even = Due.told("often;step;want 0;");
     Due.is(19, "of several the first", even.runs(200, 1), 0);
     Due.is(19, "no move", even.runs(200, 3), 0);
@@ -150,6 +155,29 @@ public final class StepsTest {
     Due.is(23, "from now on", x.again(), 2);
     Due.is(23, "all of them", all(x, 2), Due.NONE);
     Due.is(23, "the same WANT, not the same BOOK", Due.told("stay;want 2 2;").again(), 2);
+  }
+
+  /** 1 gets ahead of 0 at once, and 0 gets back when it was ASKED for more, by 1 in each round of 8. */
+  private static void againAtTheEdge() {
+    Due.is(23, "behind 192", heldAheadBy(23).again(), 192);
+    Due.is(23, "behind 200", heldAheadBy(24).again(), 200);
+    Due.is(23, "behind 208", heldAheadBy(25).again(), Due.NONE);
+  }
+
+  private static ShelfWays heldAheadBy(int times) {
+    ShelfWays x = Due.told("books 3;stay;want 2;");
+    x.steps(96);
+    for (int i = 0; i < times; i++) {
+      x.take(1);
+    }
+    x.stand(0, 2, 0);
+    x.alter(0, 3);
+    x.drop(0);
+    int[] row = {1, 0, 0, 2, 2, 2, 2, 2};
+    for (int b : row) {
+      x.add(b);
+    }
+    return x;
   }
 
   /** A SHELF more of a KIND, that does not come back. */

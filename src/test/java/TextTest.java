@@ -57,6 +57,19 @@ public final class TextTest {
     Due.is(3, "end(5)", x.end(5), 9);
     Due.is(3, "text() of the first 5", x.text(), 1);
     Due.is(3, "rule(1)", x.rule(1), 1);
+    keptOnly("want 1234", 6, -16, 2);
+    keptOnly("stays", 4, -14, 2);
+    keptOnly("want;;;;", 5, 1, 0);
+    keptOnly("stay;#", 5, 1, 0);
+  }
+
+  /** What end() took away is not read. */
+  private static void keptOnly(String fed, int n, int answer, int fault) {
+    ShelfWays x = new ShelfWays();
+    Due.feed(x, fed);
+    x.end(n);
+    Due.is(3, "text() of the first " + n + " of " + fed, x.text(), answer);
+    Due.is(3, "fault()", x.fault(), fault);
   }
 
   private static void textTaken() {
@@ -117,6 +130,12 @@ public final class TextTest {
     refused("books want;", 2, 6);
     refused("stays;", 2, 0);
     refused("sta;", 2, 0);
+    refused("xtay;", 2, 0);
+    refused("stax;", 2, 0);
+    refused("vant 1;", 2, 0);
+    refused("cooks 3;", 2, 0);
+    refused("az;", 2, 0);
+    refused("want z;", 2, 5);
     refused("stepwant;", 2, 0);
     refused(";", 2, 0);
     refused("stay;;", 2, 5);
@@ -132,6 +151,12 @@ public final class TextTest {
     refused("books 2;books", 4, 8);
     refused("stay;step;front;often;  stay;", 5, 24);
     refused("want 0 0 0 0 0 0 0 0;want 0 0 0 0 0 0 0 0 1;", 5, 42);
+    String full = " ".repeat(155);
+    refused(full + "want1", 2, 160);
+    refused(full + " want", 2, 160);
+    refused(full + "stayx", 2, 155);
+    refused(full + "    #", 1, 159);
+    refused(full + "  123", 1, 157);
     refused("want 4;", 6, 7);
     refused("want 3;books 3;  ", 6, 17);
     refused("books 5;want 0 5 0;stay;", 6, 24);
