@@ -145,6 +145,7 @@ public final class BestTest {
     Due.is(28, "lose(2, 1)", front.lose(2, 1), 4);
     Due.is(28, "no SHELVES", Due.told("want 0 1;").lose(9, 0), Due.NONE);
     Due.is(28, "no WANTS", Due.told("front;").lose(9, 0), Due.NONE);
+    Due.is(28, "16 WANTS", Due.told("stay;want 0 0 0 0 0 0 0 0 0 0 0 0 0 0 0 3;").lose(16, 0), 15);
     Due.is(28, "lose(200, 1)", Due.told("stay;want 3;").lose(200, 1), 0);
     Due.is(28, "lose(201, 0)", x.lose(201, 0), Due.BAD);
     Due.is(28, "lose(0, 2)", x.lose(0, 2), Due.BAD);

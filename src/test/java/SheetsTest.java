@@ -58,6 +58,7 @@ public final class SheetsTest {
     Due.is(39, "sheet(4, 0, -1)", x.sheet(4, 0, -1), Due.BAD);
     Due.is(39, "sheet(0, 3, -1)", x.sheet(0, 3, -1), Due.BAD);
     Due.is(39, "what is refused changes nothing", x.count(3), 40);
+    x.lay(0, 0, 2);
     x.lay(0, 5, 3);
     Due.is(39, "sheet(0, 2, 6)", x.sheet(0, 2, 6), 1);
     Due.is(39, "count(3)", x.count(3), 6);

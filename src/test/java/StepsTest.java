@@ -143,6 +143,11 @@ public final class StepsTest {
   private static void allAgain() {
     Due.is(23, "no SHELVES, no WANTS", new ShelfWays().again(), 1);
     Due.is(23, "no WANTS", Due.told("front;").again(), 1);
+    Due.is(23, "4 SHELVES", Due.told("stay;often;stay;step;want 0;").again(), 1);
+    ShelfWays less = Due.told("books 2;stay;front;want 1 1;");
+    Due.is(23, "both", less.again(), Due.NONE);
+    less.cut(1);
+    Due.is(23, "what was cut does not count", less.again(), 2);
     Due.is(23, "no SHELVES", Due.told("want 1 1 1 1 1;").again(), 5);
     Due.is(23, "stay", Due.told("stay;want 1 2 3 0 1 2 3 0 1 2 3 0 1 2 3 0;").again(), 16);
     Due.is(23, "front, back at once", Due.told("books 2;front;want 1 0;").again(), 2);
