@@ -738,7 +738,7 @@ public final class ShelfWays {
 
     private int goalOf(int book, int from) {
       if (kindNow == STEPPING) {
-        return Math.max(0, from - 1);
+        return from > 0 ? from - 1 : 0;
       }
       int p = kindNow == STAYING ? from : 0;
       while (kindNow == OFTEN && p < from && asked[row[p]] >= asked[book]) {
