@@ -201,6 +201,8 @@ public final class EdgesTest {
     Run.of(27, now).told("stay;want 0 0 0 0 0 0 0 0 0 0 0 0 0 0 3 0;").rows("swap(15, 0) 1415", "swap(15, 1) 15", "swap(14, 0) NONE",
         "swap(16, 0) NONE").end();
     Run.of(27, "of several the least").told("stay;want 3 3 0 0;").rows("swap(2, 0) 2", "swap(2, 1) 5", "swap(3, 0) 3", "swap(3, 1) 6").end();
+    // Only the second one is ASKED for in that STEP: to change the first one helps nothing.
+    Run.of(27, "the last two of three").told("stay;want 3 3 0;").rows("steps(1) 4", "swap(1, 0) 102", "swap(1, 1) 1", "swap(3, 0) NONE").end();
     Run.of(27, "NONE: by none (less than as it is)").told("stay;want 1 1 1;").rows("swap(2, 0) NONE", "swap(2, 1) NONE", "drop(1) 3",
         "swap(1, 0) NONE", "drop(0) 1", "swap(1, 0) NONE", "cut(0) 1", "add(3) 1", "add(0) 2", "swap(1, 0) NONE").end();
   }
